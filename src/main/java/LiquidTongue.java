@@ -85,8 +85,8 @@ public final class LiquidTongue {
     private Checker checker;
     private int place = -1;
     /** A type is written to the draft first, because a too long one must leave the OUT as it is. */
-    private byte[] out = new byte[OUT_LIMIT];
-    private byte[] draft = new byte[OUT_LIMIT];
+    private byte[] out = new byte[128];
+    private byte[] draft = new byte[128];
     private int outLength;
     private int draftLength;
     private final ArrayList<Name> nameless = new ArrayList<>();
@@ -134,11 +134,8 @@ public final class LiquidTongue {
         checker = null;
         place = -1;
         machine.forget();
-        return read(new Words(new String(letters)));
-    }
-
-    /** The kinds of FAULTS are looked for in their order, so the first that is found is the one to tell. */
-    private int read(Words words) {
+        // The kinds of FAULTS are looked for in their order, so the first that is found is the one to tell.
+        Words words = new Words(new String(letters));
         if (words.bad >= 0) {
             return fault(BAD_WORD, words.bad);
         }
@@ -176,7 +173,9 @@ public final class LiquidTongue {
         }
         if (checker == null) {
             checker = new Checker(program, types, judge);
-            checker.check();
+            checker.gather();
+            checker.weakenAll();
+            checker.findDoubt();
         }
         place = checker.firstDoubt;
         return place < 0 ? 1 : 0;
@@ -301,7 +300,10 @@ public final class LiquidTongue {
     }
 
     private void put(char letter) {
-        if (draftLength < OUT_LIMIT) {
+        if (draftLength == draft.length && draftLength < OUT_LIMIT) {
+            draft = Arrays.copyOf(draft, Math.min(2 * draftLength, OUT_LIMIT));
+        }
+        if (draftLength < draft.length) {
             draft[draftLength] = (byte) letter;
         }
         draftLength++;
@@ -1009,9 +1011,7 @@ public final class LiquidTongue {
             if (kind() == TRUE || kind() == FALSE) {
                 next();
             } else if (kind() != '(') {
-                a.kind = SUM;
-                a.alone = kind();
-                part(a, 1);
+                a = sum(1);
             } else {
                 next();
                 if (kind() == FUN) {
@@ -1031,43 +1031,39 @@ public final class LiquidTongue {
         }
 
         private Node sum() {
-            Node s = node(SUM);
-            int sign = 1;
-            if (kind() == '-') {
-                sign = -1;
-                next();
-            } else {
-                s.alone = kind();
-            }
-            part(s, sign);
-            for (int i = 0; i < words.count && (kind() == '+' || kind() == '-'); i++) {
-                sign = kind() == '+' ? 1 : -1;
-                next();
-                part(s, sign);
-                s.alone = END;
-            }
-            return s;
+            return sum(FAR);
         }
 
-        private void part(Node s, int sign) {
-            if (s.sum == null) {
-                s.sum = new Sum();
-                s.parts = new ArrayList<>();
+        /** An S of at most so many PARTS, read as far as it goes. */
+        private Node sum(int most) {
+            Node s = node(SUM);
+            s.sum = new Sum();
+            s.parts = new ArrayList<>();
+            s.alone = kind();
+            boolean more = true;
+            for (int i = 0; i < most && more; i++) {
+                int sign = kind() == '-' ? -1 : 1;
+                if (kind() == '-' || i > 0) {
+                    s.alone = END;
+                    next();
+                }
+                int word = kind();
+                if (word == NUMBER) {
+                    s.sum.plus += sign * words.numberOf(at);
+                    next();
+                } else {
+                    if (word == LEN || word == SIZE) {
+                        next();
+                    }
+                    Node p = node(word == LEN ? ARRAY : word == SIZE ? LIST : INT);
+                    p.name = use();
+                    s.name = p.name;
+                    s.parts.add(p);
+                    s.sum.add(p.name, sign);
+                }
+                more = kind() == '+' || kind() == '-';
             }
-            int word = kind();
-            if (word == NUMBER) {
-                s.sum.plus += sign * words.numberOf(at);
-                next();
-                return;
-            }
-            if (word == LEN || word == SIZE) {
-                next();
-            }
-            Node p = node(word == LEN ? ARRAY : word == SIZE ? LIST : INT);
-            p.name = use();
-            s.name = p.name;
-            s.parts.add(p);
-            s.sum.add(p.name, sign);
+            return s;
         }
 
         private Node compare(Sum sum, int rel) {
@@ -1711,22 +1707,16 @@ public final class LiquidTongue {
             return a == (b ^ 1) ? most >= 0 : cells[base + (b ^ 1) * width + a] <= most;
         }
 
-        private void lead(int p, int q, long most) {
+        /** From where p can be reached, so can now all that q reaches, with so much more. */
+        private void lead(int p, int q, long more) {
+            int other = base + q * width;
             for (int i = 0; i < width; i++) {
-                long way = cells[base + i * width + p];
-                if (way < NO_LIMIT) {
-                    lower(i, q, way + most);
-                }
-            }
-        }
-
-        /** From i all can be reached that can from k, with so much more. */
-        private void lower(int i, int k, long more) {
-            int row = base + i * width;
-            int other = base + k * width;
-            for (int j = 0; j < width; j++) {
-                if (cells[other + j] < NO_LIMIT && cells[other + j] + more < cells[row + j]) {
-                    cells[row + j] = cells[other + j] + more;
+                int row = base + i * width;
+                long way = cells[row + p];
+                for (int j = 0; way < NO_LIMIT && j < width; j++) {
+                    if (cells[other + j] < NO_LIMIT && way + more + cells[other + j] < cells[row + j]) {
+                        cells[row + j] = way + more + cells[other + j];
+                    }
                 }
             }
         }
@@ -1848,33 +1838,30 @@ public final class LiquidTongue {
             }
         }
 
-        /** Takes the FACT that was recalled for one of this unknown, or asks whether it is. */
+        /** Takes the recalled FACT as one of this unknown, or asks whether it is: v is at most it, at least, or both. */
         private boolean meet(Known fact, int slot, boolean ask) {
-            boolean met = true;
-            if (fact.rel != '>' && fact.rel != GE) {
-                met = bound(fact, slot, true, fact.rel == '<' ? 1 : 0, ask);
-            }
-            if (met && fact.rel != '<' && fact.rel != LE) {
-                met = bound(fact, slot, false, fact.rel == '>' ? 1 : 0, ask);
-            }
-            return met;
-        }
-
-        private boolean bound(Known fact, int slot, boolean above, int less, boolean ask) {
-            int a = 2 * slot + (above ? 0 : 1);
-            int b = a;
-            long most = (above ? fact.plus : -fact.plus) - less;
-            if (fact.name == null) {
-                most *= 2;
-            } else if (fact.name.round == round) {
-                b = side(fact.name, above ? -fact.times : fact.times);
-            } else {
+            if (fact.name != null && fact.name.round != round) {
                 return !ask;
             }
-            if (!ask) {
-                octagon.limit(a, b, most);
+            boolean met = true;
+            int less = fact.rel == '<' || fact.rel == '>' ? 1 : 0;
+            for (int sign = 1; sign >= -1; sign -= 2) {
+                long most = sign * fact.plus - less;
+                int a = 2 * slot + (sign > 0 ? 0 : 1);
+                int b = a;
+                if (fact.name == null) {
+                    most *= 2;
+                } else {
+                    b = side(fact.name, -sign * fact.times);
+                }
+                boolean told = fact.rel == '=' || (fact.rel == '<' || fact.rel == LE) == sign > 0;
+                if (told && ask) {
+                    met = met && octagon.isLimited(a, b, most);
+                } else if (told) {
+                    octagon.limit(a, b, most);
+                }
             }
-            return !ask || octagon.isLimited(a, b, most);
+            return met;
         }
 
         private static int side(Name name, int times) {
@@ -2045,7 +2032,7 @@ public final class LiquidTongue {
             this.judge = judge;
         }
 
-        void check() {
+        void gather() {
             Scope scope = null;
             for (int i = 0; i < program.inputCount; i++) {
                 Name name = program.told.get(i);
@@ -2053,7 +2040,9 @@ public final class LiquidTongue {
                 scope = new Scope(name, scope);
             }
             walk(program.root, scope);
-            weakenAll();
+        }
+
+        void findDoubt() {
             for (int i = 0; i < needs.size(); i++) {
                 Node e = needs.get(i);
                 if ((firstDoubt < 0 || e.mark < firstDoubt) && !judge.isSure(e.scope, e.need)) {
@@ -2063,7 +2052,7 @@ public final class LiquidTongue {
         }
 
         /** Only what may have changed since it was looked at is looked at again. */
-        private void weakenAll() {
+        void weakenAll() {
             int[] looked = new int[rights.size()];
             int clock = 0;
             boolean changed = true;
@@ -2339,7 +2328,7 @@ public final class LiquidTongue {
         private static final int DEEPEST_CALL = 50;
         private static final int FIRST_FREE = 4;
         /** Each call that stands open has at most one let for each level of its text, and itself. */
-        private static final int MOST_FRAMES = (DEEPEST_CALL + 1) * (DEEPEST + 3);
+        private static final int MOST_WAITING = (DEEPEST_CALL + 1) * (DEEPEST + 3);
         private Parser program;
         private int answerKind;
         /** The INPUTS: a number, a truth or a length, and an array's elements. */
@@ -2348,9 +2337,9 @@ public final class LiquidTongue {
         private long[] heap = new long[64];
         private int top;
         /** What waits for a value: a let, or (null) a call that may have ARGS left. */
-        private final Node[] waiting = new Node[MOST_FRAMES];
-        private final int[] waitingScopes = new int[MOST_FRAMES];
-        private final int[] waitingArguments = new int[MOST_FRAMES];
+        private final Node[] waiting = new Node[MOST_WAITING];
+        private final int[] waitingScopes = new int[MOST_WAITING];
+        private final int[] waitingArguments = new int[MOST_WAITING];
         private int waitingCount;
         private int scope;
         private int fuelLeft;
@@ -2499,7 +2488,7 @@ public final class LiquidTongue {
         }
 
         private void await(Node e, int where, int arguments) {
-            if (waitingCount == MOST_FRAMES) {
+            if (waitingCount == MOST_WAITING) {
                 ending = TOO_MUCH;
                 return;
             }
@@ -2538,14 +2527,18 @@ public final class LiquidTongue {
         }
 
         private long argument(Node a) {
-            if (a.kind == FUN) {
-                if (fuelLeft == 0) {
-                    ending = NO_FUEL;
-                    return 0;
-                }
-                fuelLeft--;
+            if (a.kind == SUM) {
+                return a.alone == NAME ? valueOf(a.name, a.counted) : sum(a);
             }
-            return plain(a);
+            if (a.kind != FUN) {
+                return a.kind == TRUE ? 1 : 0;
+            }
+            if (fuelLeft == 0) {
+                ending = NO_FUEL;
+                return 0;
+            }
+            fuelLeft--;
+            return triple(a.number, scope, 0);
         }
 
         /** Gives a function ARGS as far as it takes them; those that it does not are for what it answers. */
@@ -2600,7 +2593,7 @@ public final class LiquidTongue {
             return e.second;
         }
 
-        /** The value of an E or ARG that is done at once. */
+        /** The value of an E that is done at once. */
         private long plain(Node e) {
             switch (e.kind) {
                 case TRUE:
