@@ -69,7 +69,7 @@ public final class LiquidTongue {
     /** The kind of a type that nothing is known of; the other types have their words' kinds. */
     private static final int FREE = 0;
 
-    /** How a text or a run can fail. */
+    /** The kinds of FAULTS. */
     private static final int BAD_WORD = 1;
     private static final int BAD_GRAMMAR = 2;
     private static final int BAD_NAME = 3;
@@ -1543,7 +1543,7 @@ public final class LiquidTongue {
             this.instead = instead;
         }
 
-        /** An int, array or list with at most this one FACT, as only one NAME may stand beside v. */
+        /** One that says v = the sum, if that can be a FACT about v: no other NAME than one, once, may stand in it. */
         static Known of(int kind, Sum sum) {
             Known known = new Known(kind);
             if (sum != null && sum.isTerm()) {
@@ -1657,7 +1657,9 @@ public final class LiquidTongue {
             closed = false;
             failed = false;
             makeRoom(width * width);
-            Arrays.fill(cells, 0, width * width, NO_LIMIT);
+            for (int i = 0; i < width * width; i++) {
+                cells[i] = NO_LIMIT;
+            }
             for (int i = 0; i < width; i++) {
                 cells[i * width + i] = 0;
             }
@@ -1758,7 +1760,7 @@ public final class LiquidTongue {
 
     /** Decides what FACTS say, in whole numbers: conditions that may hold in several ways are tried one by one. */
     private static final class Judge {
-        /** No place has more conditions than MOST_CONDITIONS, so a few more than twice as many ways are enough. */
+        /** MOST_CONDITIONS comparisons and truths, and what joins them, are fewer than this. */
         private static final int MOST_PENDING = 40;
         private final Octagon octagon = new Octagon();
         private final Node[] pending = new Node[MOST_PENDING];
@@ -2442,8 +2444,11 @@ public final class LiquidTongue {
 
         private int array(int length) {
             int array = room(length + 1);
-            Arrays.fill(heap, array, array + length + 1, 0);
             heap[array] = length;
+            // What an earlier run left there is wiped out.
+            for (int i = 1; i <= length; i++) {
+                heap[array + i] = 0;
+            }
             elements += length;
             return array;
         }
