@@ -29,6 +29,9 @@ public final class SoundnessTest {
         for (int seed = 0; seed < 2000; seed++) {
             new SoundnessTest(seed, due).anyWords();
         }
+        for (int seed = 0; seed < 300; seed++) {
+            new SoundnessTest(seed, due).anyCalls();
+        }
         due.close();
     }
 
@@ -121,6 +124,61 @@ public final class SoundnessTest {
         tongue.accepted();
         tongue.type(0);
         tongue.run(100);
+    }
+
+    private int anyNumber() {
+        int[] edges = {Integer.MIN_VALUE, -2, -1, 0, 1, 2, 3, 7, 999, 1000, 1001, 2000, 20000, 20001, Integer.MAX_VALUE};
+        return edges[below(edges.length)];
+    }
+
+    /** Calls in any order with any numbers; all 512 that an object is good for. */
+    private void anyCalls() {
+        String[] texts = {"input a: array; input i: int; set a[i]=i; a[i]*i", "let rec f x = f (x+1) in f 0", "1+",
+            "qual int: v>=*; input b: bool; let rec f x y = if b then x else y in let l=nil in cons 1 l", "", "10/0"};
+        LiquidTongue tongue = new LiquidTongue();
+        boolean program = false;
+        for (int calls = 0; calls < 512; calls++) {
+            switch (below(11)) {
+                case 0:
+                    String text = texts[below(texts.length)];
+                    calls += 1 + (text.length() + 19) / 20;
+                    tongue.end(0);
+                    program = Due.compile(tongue, text) == 0;
+                    break;
+                case 1:
+                    due.is("accepted() without a program", tongue.accepted() == -1, !program);
+                    break;
+                case 2:
+                    due.is("place() is in the text", tongue.place() >= -1 && tongue.place() <= 2000, true);
+                    break;
+                case 3:
+                    int length = tongue.type(anyNumber());
+                    due.is("out(-1) behind type", length < 0 || tongue.out(-1) == length, true);
+                    break;
+                case 4:
+                    int letter = tongue.out(anyNumber());
+                    due.is("out is a byte or -1", letter >= -1 && letter <= 255 || letter == tongue.out(-1), true);
+                    break;
+                case 5:
+                    due.is("give without a program", tongue.give(anyNumber(), anyNumber()) && !program, false);
+                    break;
+                case 6:
+                    due.is("element without a program", tongue.element(anyNumber(), anyNumber(), anyNumber()) && !program, false);
+                    break;
+                case 7:
+                    int end = tongue.run(anyNumber());
+                    due.is("run ends somehow", end >= (program ? -1 : 0) && end <= 6, end != -1 || program);
+                    break;
+                case 8:
+                    due.is("fuel() is in its limits", tongue.fuel() >= 0 && tongue.fuel() <= 20000, true);
+                    break;
+                case 9:
+                    tongue.feed(anyNumber(), anyNumber(), anyNumber(), anyNumber(), anyNumber());
+                    break;
+                default:
+                    tongue.end(anyNumber());
+            }
+        }
     }
 
     /** A program that is likely to compile; if it is accepted, no run of it fails an assert, divides by 0 and so on. */
