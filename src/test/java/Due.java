@@ -3,16 +3,22 @@ final class Due {
     private final String test;
     private int asked;
     private int wrong;
+    /** The sentence of the document that is looked at, told with what is not as due. */
+    private String sentence = "";
 
     Due(String test) {
         this.test = test;
+    }
+
+    void sentence(String words) {
+        sentence = " (" + words + ")";
     }
 
     void is(String call, long got, long want) {
         asked++;
         if (got != want) {
             wrong++;
-            System.out.println(test + ": " + call + " answered " + got + ", due is " + want);
+            System.out.println(test + sentence + ": " + call + " answered " + got + ", due is " + want);
         }
     }
 
@@ -24,7 +30,7 @@ final class Due {
         asked++;
         if (!got.equals(want)) {
             wrong++;
-            System.out.println(test + ": " + call + " told " + got + ", due is " + want);
+            System.out.println(test + sentence + ": " + call + " told " + got + ", due is " + want);
         }
     }
 
@@ -72,6 +78,14 @@ final class Due {
         return tongue;
     }
 
+    /** The text is a PROGRAM, be it accepted or not. */
+    LiquidTongue compiles(String text) {
+        LiquidTongue tongue = new LiquidTongue();
+        is("compile() of " + text, compile(tongue, text), 0);
+        is("place() of " + text, tongue.place(), -1);
+        return tongue;
+    }
+
     static String told(LiquidTongue tongue, int k) {
         int length = tongue.type(k);
         StringBuilder text = new StringBuilder();
@@ -102,6 +116,17 @@ final class Due {
         is("run(" + fuel + ") of " + text, tongue.run(fuel), end);
         is("value() of " + text, tongue.value(), value);
         is("fuel() of " + text, tongue.fuel(), took);
+    }
+
+    /** The text, run with these INPUTS, ends well and gives this; what FUEL it takes is not looked at. */
+    void gives(String text, long value, int... inputs) {
+        LiquidTongue tongue = new LiquidTongue();
+        is("compile() of " + text, compile(tongue, text), 0);
+        for (int i = 0; i < inputs.length; i++) {
+            is("give(" + i + ", " + inputs[i] + ")", tongue.give(i, inputs[i]), true);
+        }
+        is("run(20000) of " + text, tongue.run(20000), 0);
+        is("value() of " + text, tongue.value(), value);
     }
 
     static String times(String part, int count) {
