@@ -151,6 +151,16 @@ public final class KnownBoundsTest {
         due.judged(rec + "1; x t -> @assert x=x+1; 2 in 1");
         due.types("qual int: v>=0; qual list: v>=0; let rec f l = match l with nil -> 1; x t -> 2 in 1",
                 "l:{v>=0}list->{v>=0}int", "{v>=0}list", "int", "{v=size l-1}list");
+        due.judged(rec + "10@/0; x t -> 2 in 1");
+        due.judged(rec + "2; x t -> 10@/0 in 1");
+        due.judged(rec + "10@/size l; x t -> 10/size l in 1");
+        due.judged(rec + "2; x t -> 10@/size t in 1");
+        due.types("qual int: v>0; qual int: v>=0; let rec f l = match l with nil -> 0; x t -> 1 in 1",
+                "l:list->{v>=0}int", "list", "int", "{v=size l-1}list");
+        due.types("qual int: v>0; qual int: v>=0; let rec f l = match l with nil -> 1; x t -> 0 in 1",
+                "l:list->{v>=0}int", "list", "int", "{v=size l-1}list");
+        due.types("qual int: v=*; input b: bool; let rec f l = match l with nil -> 1; x t -> let y=(if b then x else x) in let z=(if b then size t else 1) in 2 in 1",
+                "bool", "l:list->int", "list", "int", "{v=size l-1}list", "{v=x}int", "int");
         due.judged("let l=nil in match l with nil -> 1; x t -> 10/0");
         due.judged("let l=nil in let m=cons 1 l in match m with nil -> 10/0; x t -> 1");
         due.judged("let l=nil in let m=cons 1 l in match m with nil -> 1; x t -> 10@/0");
@@ -200,6 +210,10 @@ public final class KnownBoundsTest {
         due.judged("let a=new 9 in let b=new 9 in a@[len a-len b-1]");
         due.judged("let a=new 9 in let b=new 1 in let c=new 1 in a@[len b-len c]");
         due.judged("if true then 1 else let x=1 in 5@/x+x+x");
+        due.judged(input + "false then a@[x+y] else 1");
+        due.judged(input + "false then a@[len a+x+y] else 1");
+        due.judged(input + "false then set a@[x+y+x]=1; 1 else 1");
+        due.judged(input + "false then @new x+x+y else new 1");
     }
 
     private static void instances(Due due) {
@@ -257,6 +271,9 @@ public final class KnownBoundsTest {
                 "int", "{v>=0}int", "{v>=0}int", "int");
         due.types("qual int: v>=0; qual int: v<=7; input x: int; let y=(if x>=0 && x<=7 then x else 3) in let z=(if x<0 || x>7 then 3 else x) in "
                 + "let w=(if x<0 && x>7 then 3 else x) in 1", "int", "{v>=0&v<=7}int", "{v>=0&v<=7}int", "int");
+        due.types("qual int: v>=0; input x: int; let y=(if x>0 || x>5 then x else 1) in let z=(if x>0 || x>-5 then x else 1) in "
+                + "let w=(if x#0 && x>=0 || x=0 then x else 1) in let u=(if not (x<0 && x#3) then x else 1) in 1",
+                "int", "{v>=0}int", "int", "{v>=0}int", "{v>=0}int");
         due.judged("input x: int; if x>3 then assert x>=4; 1 else assert x<=3; 2");
         due.judged("input x: int; if x>3 then 1 else @assert x<3; 2");
         due.judged("input x: int; if x=3 then assert x=3; 1 else assert x#3; 2");
@@ -332,6 +349,17 @@ public final class KnownBoundsTest {
         due.types("qual int: v>0; let rec f h = h (fun x -> x) in f (fun k -> k 1)",
                 "h:($0:($1:{v>0}int->{v>0}int)->{v>0}int)->{v>0}int", "$0:($1:{v>0}int->{v>0}int)->{v>0}int", "{v>0}int",
                 "$0:{v>0}int->{v>0}int");
+        due.sentence("where B's parameter counts: what is known of it is known of A's answer");
+        due.types("qual int: v>=*; qual int: v>0; let rec id x = x in let a=id 0 in let rec app g y = g y in let r=app id 5 in 1",
+                "x:int->{v>=x}int", "int", "{v>=0}int", "g:($0:{v>0}int->{v>=$0&v>0}int)->y:{v>0}int->{v>=y&v>0}int",
+                "$0:{v>0}int->{v>=$0&v>0}int", "{v>0}int", "{v>=5&v>0}int");
+        due.types("qual int: v<=*; qual int: v<9; let rec id x = x in let a=id 9 in let rec app g y = g y in let r=app id 5 in 1",
+                "x:int->{v<=x}int", "int", "{v<=9}int", "g:($0:{v<9}int->{v<=$0&v<9}int)->y:{v<9}int->{v<=y&v<9}int",
+                "$0:{v<9}int->{v<=$0&v<9}int", "{v<9}int", "{v<=5&v<9}int");
+        due.types("qual array: v>0; qual int: v<=*; let rec length a = len a in let c=new 0 in let n=length c in let rec app g b = g b in let d=new 1 in "
+                + "let r=app length d in 1", "a:array->{v<=len a}int", "array", "{v=0}array", "{v<=len c}int",
+                "g:($0:{v>0}array->{v<=len $0}int)->b:{v>0}array->{v<=len b}int",
+                "$0:{v>0}array->{v<=len $0}int", "{v>0}array", "{v=1}array", "{v<=len d}int");
         due.sentence("bool: always");
         due.types("qual int: v>0; let rec f b = b in if true then f true else f false", "b:bool->bool", "bool");
     }
@@ -392,6 +420,11 @@ public final class KnownBoundsTest {
         due.judged("input b: bool; input c: bool; if b then if c then 10@/0 else 1 else 1");
         due.judged("input b: bool; input x: int; if b || x>0 then if b then 1 else 10/x else 1");
         due.judged("input b: bool; input x: int; if b || x>0 then if b then 10@/x else 1 else 1");
+        due.judged("input b: bool; input x: int; if b && x=1 || not b && x=2 then @assert x=1; 1 else 1");
+        due.judged("input b: bool; input x: int; if b && x=1 || not b && x=2 then assert x>0; 1 else 1");
+        due.judged("input x: int; input y: int; if x=1 && (y=1 || y=2) || x=2 && y=3 then assert x+y<=5; 1 else 1");
+        due.judged("input x: int; input y: int; if x=1 && (y=1 || y=2) || x=2 && y=3 then @assert x+y<=4; 1 else 1");
+        due.judged("input x: int; input y: int; if x=2 && y=3 || x=1 && (y=1 || y=2) then @assert x+y>=3; 1 else 1");
         due.judged("input b: bool; assert b || not b; 1");
         due.judged("input b: bool; @assert b; 1");
         due.judged("if true then 1 else 10/0");
@@ -435,6 +468,8 @@ public final class KnownBoundsTest {
     private static void firstInTheText(Due due) {
         due.sentence("ACCEPTED when all that must be SO is; otherwise the first in the text that is not is told");
         due.judged("1");
+        due.judged("@assert false; 10/0");
+        due.judged("@new -1");
         due.judged("input x: int; let y=10@/x in let z=10/x in 1");
         due.judged("input x: int; let y=10/1 in let z=10@/x in 1");
         due.judged("input x: int; let y=@new x in 10/x");

@@ -177,6 +177,12 @@ public final class RunBoundsTest {
     }
 
     private static void arrayLengths(Due due) {
+        due.sentence("new n: n elements, 0 all, in each run");
+        LiquidTongue tongue = due.compiles("let a=new 3 in let x=a[0] in let y=a[1] in let z=a[2] in set a[0]=5; set a[1]=6; set a[2]=7; x+y+z");
+        for (int i = 0; i < 3; i++) {
+            due.is("run(99)", tongue.run(99), 0);
+            due.is("value()", tongue.value(), 0);
+        }
         due.sentence("arrays of more than 1000 elements end by 2; 6 new of less than 0");
         due.run("new 0", 9, 0, 0, 1);
         due.run("new 1", 9, 0, 1, 1);
@@ -233,10 +239,23 @@ public final class RunBoundsTest {
     }
 
     private static void callsThatEnded(Due due) {
+        due.sentence("(of functions whose E is done and not yet ended): no more than 30 parts of each wait");
+        String deep = "if n<=0 then 1 else " + Due.times("let x=", 28) + "f (n-1)" + Due.times(" in x", 28);
+        due.gives("let rec f n = " + deep + " in f 49", 1);
+        due.run("let rec f n = " + deep + " in f 50", 20000, 2, 0, 2 + 50 * 30);
         due.sentence("(of functions whose E is done and not yet ended): calls one behind the other are not deep");
         due.gives("let rec f x = x+1 in let rec five y = let a=f y in let b=f a in let c=f b in let d=f c in f d in let rec ten y = let a=five y in "
                 + "five a in let rec thirty y = let a=ten y in let b=ten a in ten b in let a=thirty 0 in thirty a", 60);
         due.gives("let rec f n = if n<=0 then 1 else let a=f (n-1) in let b=f (n-1) in a+b in f 11", 2048);
+        LiquidTongue tongue = due.compiles("input k: int; let rec sum n = if n<=0 then 0 else let s=sum (n-1) in s+n in sum k");
+        for (int i = 0; i < 3; i++) {
+            tongue.give(0, 50);
+            due.is("run(20000), 51 deep", tongue.run(20000), 2);
+            due.is("run(100), that ends in a call", tongue.run(100), 1);
+            tongue.give(0, 49);
+            due.is("run(20000), 50 deep, whatever was open when another ended", tongue.run(20000), 0);
+            due.is("value()", tongue.value(), 1225);
+        }
         due.gives("let rec f n = fun m -> n+m in let rec g n = if n<=0 then 0 else let a=f n 1 in let b=g (n-1) in a+b in g 48", 48 * 49 / 2 + 48);
     }
 
@@ -335,6 +354,8 @@ public final class RunBoundsTest {
         due.run("let rec f p q = 10/0 in let g=f 1 in 5", 99, 0, 5, 4);
         due.run(EDGE + "let rec f g q = 1 in f (fun z -> z) (y+1)", 99, 2, 0, 7);
         due.run(EDGE + "let rec f q g = 1 in f (y+1) (fun z -> z)", 99, 2, 0, 6);
+        due.run(EDGE + "let rec f g q = 1 in f (fun z -> z) (y+1)", 6, 1, 0, 6);
+        due.run(EDGE + "let rec f q g = 1 in f (y+1) (fun z -> z)", 6, 2, 0, 6);
         due.run("let f=fun a -> fun b -> fun c -> fun d -> a-b-c-d in f 9 1 2 3", 99, 0, 3, 7);
         due.run("let f=fun a -> fun b -> fun c -> fun d -> a-b-c-d in let g=f 9 1 in g 2 3", 99, 0, 3, 9);
     }

@@ -126,6 +126,9 @@ public final class TypesBoundsTest {
 
     private static void unknownNames(Due due) {
         due.sentence("FAULT 3: a NAME that does not count (at it)");
+        due.fault(3, "@y");
+        due.fault(3, "@y (fun x -> fun x -> 1)");
+        due.fault(3, "@y+z");
         String known = "let a=new 1 in let l=nil in let rec f p q = 1 in ";
         String[] texts = {"@y", "-@y", "1+@y", "len @y", "size @y", "1-len @y", "@y*1", "1*@y", "1/@y", "1%@y", "new @y", "cons @y l", "cons 1 @y",
             "match @y with nil -> 1; x t -> 2", "set @y[0]=1; 1", "set a[@y]=1; 1", "set a[0]=@y; 1", "set a[0]=1; @y", "@y[0]", "a[@y]", "@y 1",
@@ -180,7 +183,10 @@ public final class TypesBoundsTest {
                 due.fault(4, names + text.replace("?", "@" + other));
             }
         }
-        for (String text : new String[] {"if ? then 1 else 2", "assert ?; 1", "if not ? then 1 else 2", "if 1=1 && (true || ?) then 1 else 2"}) {
+        String[] bools = {"if ? then 1 else 2", "assert ?; 1", "if not ? then 1 else 2", "if 1=1 && (true || ?) then 1 else 2",
+            "if ? && true then 1 else 2", "if ? || true then 1 else 2", "if true && ? && true then 1 else 2", "if (?) then 1 else 2",
+            "assert not (true && ? || false); 1"};
+        for (String text : bools) {
             due.compiles(names + text.replace("?", "b"));
             for (String other : new String[] {"n", "a", "l", "f"}) {
                 due.fault(4, names + text.replace("?", "@" + other));
@@ -220,6 +226,12 @@ public final class TypesBoundsTest {
         due.fault(4, "let rec f b g = if b then g 1 else 2 in f true @1");
         due.fault(4, "let rec f b g = if b then g 1 else 2 in f true @(fun p -> true)");
         due.fault(4, "let rec f b g = if b then g 1 else 2 in f true @(fun p -> fun q -> 1)");
+        due.fault(4, "let rec f b g = if b then g 1 else 2 in f true @(fun p -> if p then 1 else 2)");
+        due.fault(4, "let rec f b g = if b then g 1 true else 2 in f true @(fun p -> fun q -> p+q)");
+        due.fault(4, "let rec f g = g true in let rec h x = x+1 in f @h");
+        due.fault(4, "if true then fun x -> x+1 else @fun b -> if b then 1 else 2");
+        due.fault(4, "if true then fun x -> fun y -> x+y else @fun x -> fun b -> if b then x else 2");
+        due.judged("if true then fun x -> fun y -> x+y else fun x -> fun y -> x");
     }
 
     private static void typesInOrder(Due due) {
@@ -265,6 +277,10 @@ public final class TypesBoundsTest {
         due.fault(4, "let rec f x = f @f in 1");
         due.fault(4, "fun x -> fun y -> let a=x y in y @x");
         due.fault(4, "let rec f g = if true then g else @fun x -> g in 1");
+        due.fault(4, "fun x -> fun y -> let a=x y in let b=(if true then x else x) in y @x");
+        due.fault(4, "fun x -> fun y -> let a=x y in let b=(if true then y else y) in let c=(if true then x else x) in y @x");
+        due.fault(4, "fun x -> fun y -> let a=(if true then x else y) in let b=x 1 in x @y");
+        due.judged("fun x -> fun y -> let a=x y in let b=(if true then x else x) in y 1");
     }
 
     private static void comparisons(Due due) {
@@ -277,6 +293,9 @@ public final class TypesBoundsTest {
         }
         due.compiles(inputs + "if x+y-z<1-z then 1 else 2");
         due.compiles(inputs + "if x<y+z-z then 1 else 2");
+        due.compiles(inputs + "if x+y-x+z<1 then 1 else 2");
+        due.compiles(inputs + "if x+y+z-x-y+x<1 then 1 else 2");
+        due.fault(5, inputs + "if x+y-x+z+x@<1 then 1 else 2");
         due.fault(5, inputs + "if x+y+z-z@<len a then 1 else 2");
         due.sentence("(len a, size l count as ones of their own)");
         due.compiles(inputs + "if len a<size l then 1 else 2");
@@ -387,6 +406,20 @@ public final class TypesBoundsTest {
         due.fault(5, few + "let rec f x y = @if true then 1 else 1 in 1");
         due.compiles(few + "let rec f g = g+1 in let w=1 in 1");
         due.fault(5, few + "@let rec f g = g 1 2 3 in 1");
+        due.sentence("of a function all ints, bools, arrays and lists of what it takes and of what it answers");
+        // q1 has 4, and each of the others two of the one before and 2 more: 10, 22, 46, 94.
+        StringBuilder big = new StringBuilder("let q0=1 in ");
+        for (int i = 1; i <= 5; i++) {
+            big.append("let q").append(i).append("=fun f -> f q").append(i - 1).append(" q").append(i - 1).append(" in ");
+        }
+        String bigger = big.toString();
+        due.fault(5, "@" + bigger + "q5");
+        due.fault(5, bigger.replace("let q1", "@let q1") + "q4");
+        due.fault(5, bigger.replace("let q2", "@let q2") + "q3");
+        due.fault(5, bigger.replace("=fun f -> f q2 q2", "=@fun f -> f q2 q2") + "q2");
+        due.fault(5, bigger.replace("=fun f -> f q3 q3", "=@fun f -> f q3 q3") + "q1");
+        due.fault(5, bigger.replace("=fun f -> f q3 q3", "=@fun f -> f q3 q3") + "1");
+        due.compiles(bigger.substring(0, bigger.indexOf("let q4")) + "1");
         due.sentence("fun: a TEMPLATE, also of an ARG");
         due.compiles(few + "let f=fun x -> 1 in 1");
         due.compiles(few + "let f=fun x -> (if true then 1 else 1) in 1");
@@ -404,7 +437,7 @@ public final class TypesBoundsTest {
         due.sentence("FAULT 5: an ARG '(' S ')' that is not a number, or one NAME plus or minus a number, also with - ahead of it: at its '('");
         String rec = "input x: int; input y: int; input a: array; let l=nil in let rec f p q = 1 in ";
         String[] fine = {"(1)", "(-1)", "(1+2)", "(1-2-3)", "(x)", "(-x)", "(x+1)", "(x-1)", "(1+x)", "(1-x)", "(-x-1)", "(-1-x)", "(x+y-y)",
-            "(x+x-x)", "(x-x)", "(y-x+x-y+2)", "(len a)", "(-len a)", "(len a-1)", "(size l+1)", "(len a+x-len a)"};
+            "(x+x-x)", "(x-x)", "(y-x+x-y+2)", "(x+y-x+len a-y)", "(x+y-x)", "(len a)", "(-len a)", "(len a-1)", "(size l+1)", "(len a+x-len a)"};
         for (String argument : fine) {
             due.compiles(rec + "f " + argument);
             due.compiles(rec + "f 1 " + argument);
@@ -468,6 +501,11 @@ public final class TypesBoundsTest {
                 }
             }
         }
+        due.sentence("The VALUES of S: what it means");
+        due.gives("input x: int; input y: int; input z: int; x+y-x+z", 110, 1, 10, 100);
+        due.gives("input x: int; input y: int; input z: int; x+x+x-y-y+z-7", -4, 1, 50, 100);
+        due.gives("input x: int; input y: int; input z: int; -x+y-z", -91, 1, 10, 100);
+        due.gives("input x: int; input a: array; let l=nil in let m=cons 1 l in x-len a+size m-len a", 6, 15, 5);
         due.sentence("new n: n elements, 0 all. a[i]: element i, 0 the first");
         due.gives("let a=new 0 in len a", 0);
         due.gives("let a=new 3 in len a", 3);
@@ -484,6 +522,11 @@ public final class TypesBoundsTest {
         due.gives("let l=nil in match l with nil -> 8; x t -> 9", 8);
         due.gives("let l=nil in let m=cons 4 l in match m with nil -> 8; x t -> 9", 9);
         due.gives("let l=nil in let m=cons 4 l in let n=cons 5 m in match n with nil -> 8; x t -> x+size t", 6);
+        due.sentence("'true', 'false' as an E and as an ARG");
+        due.gives("let rec f b = if b then 3 else 4 in f true", 3);
+        due.gives("let rec f b = if b then 3 else 4 in f false", 4);
+        due.gives("let rec f b c = b in f true false", 1);
+        due.gives("let rec f b c = b in f false true", 0);
         due.sentence("Functions may be told with fewer ARGS, and are values");
         due.gives("let rec f x y = x-y in let g=f 9 in let h=f 5 in let a=g 1 in let b=h 1 in a-b", 4);
         due.gives("let rec f x y = x-y in f 9", 0);
