@@ -387,6 +387,23 @@ public final class KnownBoundsTest {
         due.judged(input + "x>=1 && x<=3 && x#1 && x#3 then assert x=2; 1 else 1");
         due.judged(input + "x>=1 && x<=4 && x#1 && x#4 then @assert x=2; 1 else 1");
         due.judged(input + "x+y#0 && x>=-y && y>=-x then assert x+y>=1; 1 else 1");
+        due.judged(input + "(x<y || x>z) && x>=y && y>=0 then assert z<x; 1 else 1");
+        due.judged(input + "(x<y || x>z) && x>=y && y>=0 then @assert z<x-1; 1 else 1");
+        due.judged(input + "(x+y<=0 || x+y<=1) && x-y<=1 && z<=x then assert z+z<=2; 1 else 1");
+        due.judged(input + "(x+y<=0 || x+y<=1) && x-y<=1 && z<=x then @assert z+z<=1; 1 else 1");
+        due.judged(input + "(x+y<=0 || x+y<=1) && x-y<=0 && z<=x then assert z<=0; 1 else 1");
+        due.judged(input + "(x-y<0 || x-y<0) && (-x+y<0 || -x+y<0) then 10/0 else 1");
+        due.judged(input + "(x-y<0 || x-y<0) && (y-x<0 || y-x<0) then 10/0 else 1");
+        due.judged(input + "(x+y<0 || x+y<0) && (-y-x<=0 || -y-x<=0) then 10/0 else 1");
+        due.judged(input + "(x-y<=0 || x-y<=0) && (-x+y<=0 || -x+y<=0) then 10@/0 else 1");
+        due.types("qual int: v<*; input x: int; input y: int; let p=(if x-y<0 || x-y<0 then x else y-1) in let q=(if -y+x<0 || -y+x<0 then x else y-1) in "
+                + "let r=(if y>x || y>x then x else y-1) in let s=(if x<y || x<=y then x else y-1) in 1", "int", "int", "{v<y}int", "{v<y}int", "{v<y}int",
+                "int");
+        due.judged(input + "x#y && x>=y && y>=z then assert x>z; 1 else 1");
+        due.judged(input + "x#y && x>=y && -y>=z then assert x+z#x-y+1; 1 else 1");
+        due.judged(input + "x#-y && x+y<=0 && z-y>=0 then @assert x+z<0; 1 else 1");
+        due.judged(input + "x#-y && x+y<=0 && z-y<=0 then assert x+z<0; 1 else 1");
+        due.judged(input + "x#-y && x+y>=0 && z+y<=0 then assert z<x; 1 else 1");
         due.judged("qual int: v>=1; let rec f x = if x#1&&x#2&&x#3&&x#4&&x#5 then assert x>=6; 1 else 2 in f 9");
         due.judged("qual int: v>=1; let rec f x = if x#1&&x#2&&x#3&&x#4&&x#5 then @assert x>=7; 1 else 2 in f 9");
         due.judged("let a=9999*9999 in let b=a+1 in assert a>9999 && b-9999>9999 && b-a=1; if a<b then 1 else 10/0");
@@ -418,6 +435,9 @@ public final class KnownBoundsTest {
         due.judged("input b: bool; input c: bool; if b && not c then if c || not b then 10/0 else 1 else 1");
         due.judged("input b: bool; input c: bool; if b || c then if not b && not c then 10/0 else 1 else if b || c then 10/0 else 1");
         due.judged("input b: bool; input c: bool; if b then if c then 10@/0 else 1 else 1");
+        due.judged("input b: bool; input c: bool; if b then if c then 1 else 10@/0 else 1");
+        due.judged("input b: bool; input c: bool; if b && not c then 10@/0 else 1");
+        due.judged("input b: bool; input c: bool; if not b then if c then 10@/0 else 1 else 1");
         due.judged("input b: bool; input x: int; if b || x>0 then if b then 1 else 10/x else 1");
         due.judged("input b: bool; input x: int; if b || x>0 then if b then 10@/x else 1 else 1");
         due.judged("input b: bool; input x: int; if b && x=1 || not b && x=2 then @assert x=1; 1 else 1");
